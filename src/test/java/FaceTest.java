@@ -56,7 +56,9 @@ public final class FaceTest {
         for (Class<?> inside : TouchReign.class.getDeclaredClasses()) {
             due("is static: " + inside, Modifier.isStatic(inside.getModifiers()), true);
             for (Method m : inside.getDeclaredMethods()) {
-                due("bears a public name: " + m, names.contains(m.getName()), false);
+                if (Modifier.isPrivate(m.getModifiers())) {
+                    due("bears a public name: " + m, names.contains(m.getName()), false);
+                }
                 due("parameters of " + m, m.getParameterCount() <= 7, true);
             }
         }
@@ -86,8 +88,11 @@ public final class FaceTest {
     private static void text() throws java.io.IOException {
         String text = Files.readString(Path.of("src/main/java/TouchReign.java"));
         String code = text.replaceAll("(?s)/\\*.*?\\*/", "").replaceAll("//[^\n]*", "");
-        Matcher m = Pattern.compile("\\b(import|package|try|catch|finally|throw|synchronized|assert|native|"
-            + "System\\.(?!arraycopy)|Thread|Random|\\w+Exact)\\b|->|::|\\bstatic\\s*\\{").matcher(code);
+        // what rules 2, 4, 5, 6 and 13 forbid; an answer made of what the machine throws is forbidden too
+        Matcher m = Pattern.compile("\\b(package|finally|synchronized|assert|native|import (?!java\\.util\\.)|"
+            + "System\\.(?!arraycopy)|Thread|Random|\\w+Exact|Throwable|Exception|NullPointerException|"
+            + "ClassCastException|ArrayIndexOutOfBoundsException|NegativeArraySizeException|ArrayStoreException)\\b"
+            + "|->|::|\\bstatic\\s*\\{").matcher(code);
         while (m.find()) due("in the text: " + m.group(), true, false);
         due("signs 1 to 127 alone", text.chars().allMatch(c -> c >= 1 && c <= 127), true);
     }

